@@ -1161,11 +1161,12 @@ public final class SalaryLid {
         private static final long FACTOR = 6364136223846793005L;
         private static final long ADDEND = 1442695040888963407L;
 
-        final int[] sets = new int[TEAMS_MAX];
-        final int[] prices = new int[TEAMS_MAX];
-        final int[] scores = new int[TEAMS_MAX];
-        final int[] drawable = new int[TEAMS_MAX];
-        final int[] bestAt = new int[PRICES_MAX + 1];
+        // Long rows: an object that never has a league goes without them.
+        int[] sets = new int[0];
+        int[] prices = new int[0];
+        int[] scores = new int[0];
+        int[] drawable = new int[0];
+        int[] bestAt = new int[0];
         League league;
         int size;
         int drawableSize;
@@ -1175,7 +1176,18 @@ public final class SalaryLid {
         int stairScore;
         int steadyScore;
 
+        private void makeRows() {
+            if (sets.length < TEAMS_MAX) {
+                sets = new int[TEAMS_MAX];
+                prices = new int[TEAMS_MAX];
+                scores = new int[TEAMS_MAX];
+                drawable = new int[TEAMS_MAX];
+                bestAt = new int[PRICES_MAX + 1];
+            }
+        }
+
         void build(League of) {
+            makeRows();
             league = of;
             size = 0;
             drawableSize = 0;
@@ -1589,12 +1601,12 @@ public final class SalaryLid {
         private static final int WEEK_VALUES = ROWS_MAX * FREE_MAX * CHIP_SETS;
 
         // One row more than there are choices: the team owned may be too dear to be one.
-        final int[] sets = new int[ROWS_MAX];
-        final int[][] swaps = new int[ROWS_MAX][CHOICES_MAX];
-        final int[][] plain = new int[WEEK_MAX][CHOICES_MAX];
-        final int[][] tops = new int[WEEK_MAX][CHOICES_MAX];
+        int[] sets = new int[0];
+        int[][] swaps = new int[0][0];
+        int[][] plain = new int[0][0];
+        int[][] tops = new int[0][0];
+        int[] values = new int[0];
         final int[] richest = new int[WEEK_MAX];
-        final int[] values = new int[(WEEK_MAX + 1) * WEEK_VALUES];
         final int[] rowSets = new int[WEEK_MAX];
         final int[] rowChips = new int[WEEK_MAX];
         League league;
@@ -1612,8 +1624,20 @@ public final class SalaryLid {
             return choices > 0 && choices <= CHOICES_MAX;
         }
 
+        /** Long rows: an object that is never asked for a plan goes without them. */
+        private void makeRows() {
+            if (sets.length < ROWS_MAX) {
+                sets = new int[ROWS_MAX];
+                swaps = new int[ROWS_MAX][CHOICES_MAX];
+                plain = new int[WEEK_MAX][CHOICES_MAX];
+                tops = new int[WEEK_MAX][CHOICES_MAX];
+                values = new int[(WEEK_MAX + 1) * WEEK_VALUES];
+            }
+        }
+
         /** The table must have its prices as now. */
         void make(League of, Season at, TeamTable table) {
+            makeRows();
             league = of;
             season = at;
             weeks = of.rules[WEEKS];
@@ -1624,12 +1648,19 @@ public final class SalaryLid {
             }
             setOwned();
             measure();
-            int end = weeks * WEEK_VALUES;
-            Arrays.fill(values, end, end + WEEK_VALUES, 0);
+            clearEnd();
             for (int week = weeks - 1; week > at.played; week--) {
                 valueWeek(week);
             }
             walk();
+        }
+
+        /** Behind the last week there is nothing more to get. */
+        private void clearEnd() {
+            int end = weeks * WEEK_VALUES;
+            for (int k = 0; k < WEEK_VALUES; k++) {
+                values[end + k] = 0;
+            }
         }
 
         private void choose(TeamTable table, int worth) {

@@ -580,10 +580,19 @@ final class Model {
         if (choices.isEmpty()) {
             return -3;
         }
-        seen = new HashMap<>();
-        int[] row = planFrom(s.played(), s.owned(), s.free, new ArrayList<>(s.chipsPlayed));
+        int[] row = planRows();
         int k = 1 + 2 * (w - s.played());
         return what == 0 ? row[0] : what >= 20 ? row[k + 1] - 1 : row[k];
+    }
+
+    /** The plan's score, then its row; null: there is none. */
+    int[] planRows() {
+        choices = teamsUnder(s.price, worth(s, s.price));
+        if (choices.isEmpty() || choices.size() > 40) {
+            return null;
+        }
+        seen = new HashMap<>();
+        return planFrom(s.played(), s.owned(), s.free, new ArrayList<>(s.chipsPlayed));
     }
 
     private int[] planFrom(int w, int ahead, int free, List<Integer> played) {

@@ -35,6 +35,7 @@ final class PromiseTest {
         promise15();
         promise15Free();
         promise15Prices();
+        promise15SixWeeks();
         promise16();
         promise17();
         promise18();
@@ -224,6 +225,11 @@ final class PromiseTest {
         fault("slots 1 0 0 0;k g 1 1 1 1", 16);
         fault("slots 1 0 0 0;k 1 1 1 1 1", 16);
         fault("slots 1 0 0 0;k", 15);
+        fault("slots 1 0 0 0;kz", 14);
+        fault("slots 1 0 0 0;k`", 15);
+        fault("slots 1 0 0 0;k{", 15);
+        fault("slots 1 0 0 0;k a/", 17);
+        fault("slots 1 0 0 0;k a:", 17);
         fault("slots 1 0 0 0;a a 1 1 1 1", 14);
         fault("slots 1 0 0 0;k f 1 1 1 1;b e 1 1 1 1;m d 1 1 1 1;f c 1 1 1 1", NONE);
         StringBuilder text = new StringBuilder("slots 1 0 0 0;weeks 1");
@@ -251,10 +257,14 @@ final class PromiseTest {
         Check.feed(x, "slots");
         due("5 a fault later", x.league(), NONE);
         due("5 all stays", x.now(6), 1);
+        due("5 the rules stay", x.rule(11), 1);
+        due("5 the players stay", x.rule(10), 1);
         due("5 the acts stay", x.count(1), 1);
         due("5 the image stays", x.back(), 0);
         x.end(0);
         x.captain(5);
+        x.week();
+        x.chip(0);
         Check.feed(x, SMALL);
         due("5 another league", x.league(), 6);
         due("5 nothing begun", x.now(0), HIDDEN);
@@ -263,11 +273,24 @@ final class PromiseTest {
         due("5 what was refused stays", x.status(1), 1);
         due("5 its rules", x.rule(4), 40);
         due("5 its teams", x.teams(99), 11);
+        due("5 its size", x.rule(11), 3);
+        due("5 its prices as told", x.price(63), 55);
+        due("5 no week was played", x.image(), 0);
+        x.begin(14);
+        now("a new season", x, 11, 40, 0, 1, 0, 1, 14, 0, NONE, 0, 0);
+        x.week();
+        x.week();
         Check.feed(x, "slots 0 0 1 0;m f 9 1 2 3");
         due("5 one more", x.league(), 1);
         due("5 bounds of old rules are gone", x.rule(4), 99);
         due("5 old players are gone", Check.player(x, 1, 0), Check.THROWN);
         due("5 old sets are gone", x.team(1), 0);
+        due("5 its size", x.rule(11), 1);
+        due("5 its club", x.most(4), 5);
+        due("5 its price as told", x.price(1), 9);
+        due("5 it is steady from week 0 on", x.steady(9, 0), 2);
+        due("5 its best", x.best(2, 9, 0), 6);
+        due("5 its rival", x.rival(4, 1), 1);
     }
 
     private static void promise6() {
@@ -373,6 +396,7 @@ final class PromiseTest {
         due("10 begun, wrong bits", x.begin(-1), NONE);
         due("10 status 0 again", x.status(0), 3);
         due("10 one act", x.count(1), 1);
+        due("10 money", small().begin(50), 16);
     }
 
     private static void promise11() {
@@ -506,6 +530,8 @@ final class PromiseTest {
         SalaryLid z = Check.told("slots 2 0 0 0;weeks 1;k a 1 1;k a 1 3;k a 1 3;k a 1 2");
         z.begin(9);
         due("14 the lowest of several", z.loan(6), 1);
+        z.undo();
+        due("14 of the team on loan", z.loan(9), 3);
         due("14 all played", playedOut().loan(14), NONE);
     }
 
@@ -591,6 +617,22 @@ final class PromiseTest {
         for (int what = 0; what < want.length; what++) {
             due("16 tale " + week + " " + what, x.tale(week, what), want[what]);
         }
+    }
+
+    private static void promise15SixWeeks() {
+        SalaryLid x = Check.told("slots 2 0 0 0;weeks 6;rise 3;fall 0;k a 5 1 2 3 4 5 6;k b 5 6 5 4 3 2 1;k c 5 0 0 0 0 0 9");
+        x.begin(3);
+        plan("six weeks", x, 0, 13 + 12 + 11 + 11 + 12 + 15 + 9 + 9, 10, 3, 14, 3, 15, 5, 24, NONE, 25, 0);
+        for (int week = 0; week < 6; week++) {
+            due("15 week " + week, x.week(), 7 + week + 1);
+        }
+        due("15 seventh", x.week(), HIDDEN);
+        due("15 price", Check.player(x, 0, 2), 9);
+        due("26 price", x.priceThen(0, 5), 9);
+        due("15 price", Check.player(x, 1, 2), 9);
+        due("15 not below 1, then one more", Check.player(x, 2, 2), 2);
+        tale(x, 5, 13, 3, 0, NONE, 0, 89 + 6 + 7);
+        due("33 week 5", x.regret(5), 6 + 9 + 9 - 13);
     }
 
     private static void promise16() {
@@ -901,6 +943,7 @@ final class PromiseTest {
         SalaryLid x = small();
         due("28 points", x.steady(40, 0), 22);
         due("28 team", x.steady(40, 1), 22);
+        due("28 just its price", x.steady(31, 1), 22);
         due("28 under 30", x.steady(30, 0), 19);
         due("28 under 30", x.steady(30, 1), 14);
         due("28 none", x.steady(21, 0), HIDDEN);
@@ -1154,6 +1197,16 @@ final class PromiseTest {
         due("37 the swap", x.undo(), 1);
         now("the swap undone", x, 11, 40, 0, 1, 0, 1, 14, 0, NONE, 0, 0);
         due("37 bought", Check.player(x, 3, 3), 9);
+        x.week();
+        x.week();
+        x.swap(2, 4);
+        x.swap(4, 2);
+        due("37 bought again", Check.player(x, 2, 3), 14);
+        x.undo();
+        x.undo();
+        due("37 as it was bought", Check.player(x, 2, 3), 12);
+        due("37 what is left to undo", x.undo(), 2);
+        due("37 one more", x.undo(), 1);
         due("37 begun", x.undo(), 0);
         due("37 not begun", x.now(0), HIDDEN);
         due("37 none", x.undo(), NONE);
@@ -1163,6 +1216,11 @@ final class PromiseTest {
         x.undo();
         now("the loan undone", x, 11, 40, 0, 1, 0, 1, 14, 0, NONE, 0, 0);
         due("37 a plan behind it", x.plan(20), NONE);
+        int plan = x.plan(0);
+        x.chip(0);
+        Check.due("37 another plan", x.plan(20) == 0 && x.plan(0) < plan, true);
+        x.undo();
+        due("37 the plan again", x.plan(0), plan);
         for (int k = 0; k < 12; k++) {
             x.captain(k % 2 == 0 ? 2 : 1);
         }
@@ -1208,12 +1266,28 @@ final class PromiseTest {
         due("39 plan", x.plan(11), 26);
         due("39 status stays", x.status(0), 1);
         x.week();
+        x.undo();
+        x.week();
         due("39 it is still kept", x.back(), 1);
         due("39 as it was", x.now(10), 26);
         x.week();
         due("38 instead", x.image(), 2);
         x.week();
         due("39 the later one", x.back(), 2);
+        SalaryLid y = begun(14);
+        y.week();
+        y.image();
+        y.undo();
+        y.captain(2);
+        y.week();
+        due("39 another tale", y.tale(0, 0), 23);
+        y.back();
+        tale(y, 0, 19, 14, 1, NONE, 0, 40);
+        int plan = y.plan(0);
+        y.week();
+        Check.due("39 another plan", y.plan(0) < plan, true);
+        y.back();
+        due("39 the plan again", y.plan(0), plan);
     }
 
     private static void promise40() {
@@ -1276,6 +1350,11 @@ final class PromiseTest {
         SalaryLid w = Check.told("slots 1 0 0 0;weeks 1;k a 2 -6;k a 9 -9;k f 9 -99;k f 1 -1;k f 1 -2");
         due("41 weight below 0", w.most(2), 1);
         due("41 club", w.most(4), 5);
+        SalaryLid v = Check.told("slots 1 0 0 0;weeks 3;k a 9 1 5 2;k a 9 1 1 4");
+        due("41 the lowest week of several", v.most(5), 1);
+        SalaryLid u = Check.told("slots 1 0 0 0;weeks 3;k a 9 8 5 9;k a 9 1 1 4");
+        due("41 the last week", u.most(5), 2);
+        due("41 one alone is the most", u.most(0), 0);
     }
 
     private static void promise42() {
