@@ -653,6 +653,30 @@ final class ActBounds {
             same("back ahead of " + k, y, before);
             act(y, k);
         }
+        SalaryLid z = owned("slots 2 0 0 0;weeks 2;k a 5 1 4;k b 5 3 6", 3);
+        z.week();
+        z.image();
+        int plan = z.plan(0);
+        z.undo();
+        z.captain(1);
+        z.week();
+        z.chip(0);
+        Doc.due("another week was played", z.tale(0, 0), 4 + 3);
+        Doc.due("another plan", z.plan(21), 0);
+        z.week();
+        z.back();
+        Doc.due("the week as it was", z.tale(0, 0), 4 + 1);
+        Doc.due("its captain", z.tale(0, 2), 0);
+        Doc.due("the plan as it was", z.plan(0), plan);
+        SalaryLid w = owned(PAIR, 1);
+        w.image();
+        w.week();
+        Doc.due("a plan behind a week", w.plan(10), HIDDEN);
+        // He fell to 4, so that the worth is 8: the one for 9 is no choice.
+        Doc.due("a plan of one week", w.plan(0), 4 * 3);
+        w.back();
+        Doc.due("a plan of two weeks", w.plan(0), 8 * 2 + 8 * 3);
+        Doc.due("its first week", w.plan(10), 4);
     }
 
     private static void imageRefused() {

@@ -17,11 +17,13 @@ final class ComingBounds {
         worthThen();
         planUnderWorth();
         planByPricesAsNow();
+        planOwnedIsNoChoice();
         planSwaps();
         planSwapsDone();
         planFree();
         planChips();
         planLoan();
+        planChipsToCome();
         planLeastRow();
         planChipOfThisWeek();
         planOfForty();
@@ -61,6 +63,7 @@ final class ComingBounds {
         bestSwap("the least loss", owned("slots 1 0 0 0;weeks 1;k a 5 3;k b 5 1;k c 5 2", 1), 0, 2, -1);
         bestSwap("the most", owned("slots 1 0 0 0;weeks 1;k a 5 -99;k b 5 99", 1), 0, 1, 198);
         Doc.says(24, "The best SWAP: 0 who is sold, 1 who is bought, 2 its GAIN.");
+        bestSwap("the lowest is bought", owned("slots 1 0 0 0;weeks 1;k a 5 3;k b 5 1;k c 5 2", 2), 1, 0, 2);
         bestSwap("the highest of sixteen", owned("slots 1 0 0 0;weeks 1" + ";k a1 1".repeat(15) + ";k a1 2", 1 << 14), 14, 15, 1);
     }
 
@@ -139,6 +142,7 @@ final class ComingBounds {
         x.week();
         twoSwaps("the last week", x, 0, 1, 1, 2, 2);
         Doc.says(31, "TWO SWAPS: 0 who is sold first, 1 bought, 2 sold second, 3 bought, 4 GAIN together.");
+        twoSwaps("the lowest is bought first", owned("slots 2 0 0 0;weeks 1;k a 5 3;k b 5 3;k c 5 1;k d 5 1", 12), 2, 0, 3, 1, 4);
         twoSwaps("the most", owned("slots 2 0 0 0;weeks 1;k a 5 -99;k b 5 -99;k c 5 99;k d 5 99", 3), 0, 2, 1, 3, 396);
     }
 
@@ -268,6 +272,30 @@ final class ComingBounds {
         plan("under what it brings", z, 0, 12, 1, 1, 12, 2, 22, 0);
     }
 
+    /** The team owned is too dear for the worth, but swaps are counted from it. */
+    private static void planOwnedIsNoChoice() {
+        // All three rise to 6 and bring 5: three swaps with two free.
+        String apart = "slots 3 0 0 0;lid 15;weeks 3;rise 9;k a5 9 9 9;k b5 9 9 9;k c5 9 9 9;k d5 2 5 5;k e5 2 5 5;k f5 2 5 5";
+        SalaryLid x = owned(apart, 7);
+        x.week();
+        plan("none of them is a choice", x, 0, 20 + 25, 1, 1, 11, 56, 12, 56, 21, 1, 22, 0);
+        x.chip(0);
+        plan("triple now", x, 0, 25 - 4 + 20, 11, 56, 21, 0, 12, 56, 22, NONE);
+        x.undo();
+        x.loan(56);
+        plan("the one owned stays behind the loan", x, 0, 20 + 25 - 4, 11, 56, 21, 2, 12, 56, 22, 0);
+        // The third stays at 5, so that he is in the only choice: two swaps, both free.
+        String shared = "slots 3 0 0 0;lid 15;weeks 2;rise 9;k a5 9 9;k b5 9 9;k c5 2 5;k d5 2 5;k e5 2 5";
+        SalaryLid y = owned(shared, 7);
+        y.week();
+        plan("one of them is", y, 0, 25, 1, 1, 11, 28, 21, 0);
+        SalaryLid z = owned(shared, 7);
+        z.swap(2, 3);
+        z.swap(3, 2);
+        z.week();
+        plan("one of them is, with one free", z, 0, 25 - 4, 1, 1, 11, 28, 21, 0);
+    }
+
     private static String swapsText(int points) {
         return "slots 2 0 0 0;weeks 1;k a 1 1;k b 1 1;k c 1 " + points + ";k d 1 " + points;
     }
@@ -341,6 +369,25 @@ final class ComingBounds {
         w.undo();
         w.undo();
         plan("the swaps undone", w, 0, 18, 12, 4, 22, NONE);
+        planFreeIsUsedUp();
+    }
+
+    private static void planFreeIsUsedUp() {
+        // Both free swaps go to week 3, so one is left in week 4: a second one would cost 9 and bring 6.
+        String text = "slots 2 0 0 0;weeks 5;cost 9;rise 99;fall 0;k a 1 2 2 2 9 0;k b 1 2 2 2 9 0;k c 1 2 2 2 0 6;k d 1 2 2 2 0 6";
+        plan("free is used up", chipless(text, 12, 0), 0, 27 + 12, 13, 3, 14, 5, 23, NONE, 24, NONE);
+        // One swap was done, wild and triple were played: loan would bring 18 more.
+        SalaryLid x = owned("slots 2 0 0 0;weeks 3;cost 9;rise 99;fall 0;k a 1 2 2 0;k b 1 2 2 0;k c 1 2 2 6;k d 1 2 2 6;k e 1 2 2 0", 3);
+        x.chip(1);
+        x.week();
+        x.chip(0);
+        x.swap(0, 4);
+        x.swap(4, 0);
+        x.week();
+        Doc.due("one is free", x.now(3), 1);
+        plan("loan with no swap done", x, 0, 18, 12, 12, 22, 2);
+        x.swap(0, 4);
+        plan("no loan behind one swap", x, 0, 12 - 9, 12, 6, 22, NONE);
     }
 
     private static void planChips() {
@@ -371,6 +418,32 @@ final class ComingBounds {
         z.loan(3);
         z.week();
         plan("loan was played", z, 0, 24 + 36, 11, 12, 21, 1, 12, 3, 22, 0);
+    }
+
+    /** Two chips are played, then the points go to the others for a week in the middle. */
+    private static SalaryLid middle(int team, boolean triple, boolean wild) {
+        SalaryLid x = owned("slots 3 0 0 0;weeks 5;cost 9;rise 99;fall 0;k a1 2 2 9 0 7;k b1 2 2 9 0 7;k c1 2 2 9 0 7"
+            + ";k d1 2 2 0 9 0;k e1 2 2 0 9 0;k f1 2 2 0 9 0", team);
+        if (triple) {
+            x.chip(0);
+        }
+        x.week();
+        if (wild) {
+            x.chip(1);
+        } else {
+            x.loan(team);
+        }
+        x.week();
+        return x;
+    }
+
+    private static void planChipsToCome() {
+        Doc.says(25, "FREE, CHIPS as told (no LOAN in this WEEK behind a SWAP);");
+        // Behind wild two are free, a third one would cost 9 and bring 7.
+        plan("wild in the week between", middle(7, true, false), 0, 36 + 36 + 21, 12, 7, 22, NONE, 13, 56, 23, 1, 14, 11, 24, NONE);
+        plan("loan in the week between", middle(7, true, true), 0, 36 + 36 + 28, 12, 7, 22, NONE, 13, 56, 23, 2, 14, 7, 24, NONE);
+        plan("triple and wild", middle(7, false, false), 0, 45 + 36 + 21, 12, 7, 22, 0, 13, 56, 23, 1, 14, 11, 24, NONE);
+        plan("triple and loan", middle(7, false, true), 0, 45 + 36 + 28, 12, 7, 22, 0, 13, 56, 23, 2, 14, 7, 24, NONE);
     }
 
     private static void planLeastRow() {

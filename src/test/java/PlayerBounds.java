@@ -245,6 +245,7 @@ final class PlayerBounds {
         Doc.says(41, "3 how many are OUTDONE,");
         Doc.due("nobody", most("k a 5 3 3;k b 6 3 4", 3), 0);
         Doc.due("one", most("k a 5 3 3;k b 6 3 3", 3), 1);
+        Doc.due("the first one", most("k a 6 3 3;k b 5 3 3", 3), 1);
         Doc.due("all but one", most("k a 5 3 3;k b 5 3 3;k c 5 3 3;k d 5 3 3", 3), 3);
         Doc.due("of two places", most("k a 5 3 3;k b 5 3 3;b c 5 3 3;b d 5 3 3", 3), 2);
         Doc.due("fifteen of sixteen", Check.told("slots 1 0 0 0;weeks 1" + ";k a1 1".repeat(16)).most(3), 15);

@@ -37,10 +37,12 @@ final class TableBounds {
         regret();
         regretHidden();
         rivals();
+        rivalsOfAnyBit();
         rivalsUnderTheLid();
         rivalHidden();
         ahead();
         aheadRefused();
+        largestLeague();
     }
 
     private static SalaryLid playedOnce(String text) {
@@ -546,6 +548,25 @@ final class TableBounds {
         Doc.due("its team", y.rival(0, 1), 3);
     }
 
+    /** Seeds by which the 33 bits that are shifted out become all 0 or all 1: one less or more there would be another draw. */
+    private static void rivalsOfAnyBit() {
+        BigInteger round = BigInteger.ONE.shiftLeft(33);
+        BigInteger factor = new BigInteger("6364136223846793005");
+        BigInteger addend = new BigInteger("1442695040888963407");
+        StringBuilder text = new StringBuilder("slots 1 0 0 0;weeks 1");
+        for (int i = 0; i < 13; i++) {
+            text.append(";k a1 ").append(i);
+        }
+        SalaryLid x = Check.told(text.toString());
+        for (BigInteger low : new BigInteger[] {BigInteger.ZERO, round.subtract(BigInteger.ONE)}) {
+            long seed = low.subtract(addend).multiply(factor.modInverse(round)).mod(round).longValue();
+            for (long high = 0; high < 16; high++) {
+                long more = seed + (high << 33);
+                Doc.due("seed " + more, x.rival(more, 1), 1L << draw(more, 13));
+            }
+        }
+    }
+
     private static void rivalsUnderTheLid() {
         Doc.says(34, "of all TEAMS with PRICES (as they were told) no more than the lid, as bits rising, the one that a draw of how many there are tells:");
         int[][] teams = {{}, {3}, {3, 5, 6}, {3, 5, 6}, {3, 5, 6}, {3, 5, 6, 9, 10}, {3, 5, 6, 9, 10, 12}, {3, 5, 6, 9, 10, 12}};
@@ -619,5 +640,74 @@ final class TableBounds {
         x.week();
         x.week();
         Doc.bounds("all weeks are played, n", n -> x.ahead(0, n), 1, 50, NONE);
+    }
+
+    // Keeper i and back 8 + i have i points in each week: as many teams, players, weeks as can be.
+    private static String largest() {
+        StringBuilder text = new StringBuilder("slots 3 3 0 0;weeks 6");
+        for (int i = 0; i < 16; i++) {
+            text.append(i < 8 ? ";k a1" : ";b a1").append((" " + i % 8).repeat(6));
+        }
+        return text.toString();
+    }
+
+    private static void largestLeague() {
+        SalaryLid x = Check.told(largest());
+        int top = 7 << 5 | 7 << 13;
+        Doc.says(20, "BEST of a WEEK under L: 0 the POINTS, 1 the TEAM, 2 its captain.");
+        for (int week = 0; week < 6; week++) {
+            best(x, week, 5, HIDDEN, HIDDEN, HIDDEN);
+            best(x, week, 6, 43, top, 7);
+            Doc.due("must", x.must(week, 6), top);
+            Doc.due("least", x.least(week, 43), 6);
+            stair(x, week, 6, 43);
+        }
+        steady(x, 5, HIDDEN, HIDDEN);
+        steady(x, 6, 43, top);
+        Doc.says(30, "How many TEAMS whose PRICES (as now) together are no more than L have both PLAYERS (or the one, told twice).");
+        Doc.due("one", x.held(6, 15, 15), 21 * 56);
+        Doc.due("both", x.held(6, 7, 15), 21 * 21);
+        Doc.due("both of a place", x.held(6, 14, 15), 6 * 56);
+        Doc.says(41, "3 how many are OUTDONE,");
+        int[] most = {7, 0, 7, 14, 0, 0};
+        for (int what = 0; what < 6; what++) {
+            Doc.due("most " + what, x.most(what), most[what]);
+        }
+        Doc.due("the last one of each place", x.outdone(15), NONE);
+        Doc.due("one ahead of him", x.outdone(14), 15);
+        Doc.says(34, "RIVAL: 0 its SCORE, 1 the TEAM.");
+        for (long seed : SEEDS) {
+            int team = x.rival(seed, 1);
+            Doc.due("a team", x.team(team), 0);
+            Doc.due("its score", x.rival(seed, 0), 6 * scoreOfLargest(team));
+        }
+        x.begin(7 | 7 << 8);
+        Doc.says(24, "The best SWAP: 0 who is sold, 1 who is bought, 2 its GAIN.");
+        Doc.due("sold", x.bestSwap(0), 0);
+        Doc.due("bought", x.bestSwap(1), 7);
+        Doc.due("gain", x.bestSwap(2), 42);
+        Doc.says(31, "TWO SWAPS: 0 who is sold first, 1 bought, 2 sold second, 3 bought, 4 GAIN together.");
+        int[] two = {0, 7, 8, 15, 84};
+        for (int what = 0; what < 5; what++) {
+            Doc.due("what " + what, x.twoSwaps(what), two[what]);
+        }
+        for (int week = 0; week < 6; week++) {
+            x.week();
+        }
+        Doc.says(33, "REGRET.");
+        Doc.due("the last week", x.regret(5), 43 - 6);
+        Doc.due("the price of all", x.price(65535), 16);
+    }
+
+    private static int scoreOfLargest(int team) {
+        int sum = 0;
+        int most = 0;
+        for (int i = 0; i < 16; i++) {
+            if ((team >> i & 1) != 0) {
+                sum += i % 8;
+                most = Math.max(most, i % 8);
+            }
+        }
+        return sum + most;
     }
 }

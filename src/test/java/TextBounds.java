@@ -16,6 +16,7 @@ final class TextBounds {
         constants();
         newObject();
         tapeHolds400();
+        tapeHolds400OfAnyByte();
         bytesOfZero();
         firstBytes();
         lines();
@@ -42,6 +43,7 @@ final class TextBounds {
         faultAtTheEnd();
         faultLeavesAll();
         leagueEmptiesAll();
+        leagueIsLikeTheFirst();
         leagueRefused();
         rules();
         manyCalls();
@@ -138,6 +140,22 @@ final class TextBounds {
         y.end(399);
         y.feed(0, 0, 0, 0, '?');
         Doc.due("the 400th is read", y.fault(), 399);
+    }
+
+    private static void tapeHolds400OfAnyByte() {
+        SalaryLid x = new SalaryLid();
+        for (int k = 0; k < 20; k++) {
+            feed(x, 20);
+        }
+        for (int one : new int[] {1, 2, 127, 128, 255}) {
+            for (int at = 0; at < 20; at++) {
+                int[] five = new int[5];
+                five[at / 4] = one << 8 * (at % 4);
+                Doc.due("byte " + one + " at " + at + " to 400", x.feed(five[0], five[1], five[2], five[3], five[4]), NONE);
+                x.end(399);
+                Doc.due("byte " + one + " at " + at + " to 399", x.feed(five[0], five[1], five[2], five[3], five[4]), 400);
+            }
+        }
     }
 
     private static void bytesOfZero() {
@@ -437,6 +455,8 @@ final class TextBounds {
             fine(HEAD + ";" + rule + " 01" + MAN);
             fine(HEAD + ";" + rule + " 001" + MAN);
             faultAt(HEAD + ";" + rule + " ^0001" + MAN);
+            faultAt(HEAD + ";" + rule + " ^0010" + MAN);
+            faultAt(HEAD + ";" + rule + " ^0990" + MAN);
         }
         for (String rule : new String[] {"club", "weeks", "cost"}) {
             fine(HEAD + ";" + rule + " 3" + MAN);
@@ -498,6 +518,14 @@ final class TextBounds {
         }
         faultAt("^slot 1 0 0 0" + MAN);
         faultAt("^slotss 1 0 0 0" + MAN);
+        for (int at = 0; at < 5; at++) {
+            faultAt("^" + "slots".substring(0, at) + "q" + "slots".substring(at + 1) + " 1 0 0 0" + MAN);
+            for (String rule : RULES) {
+                if (at < rule.length()) {
+                    faultAt(HEAD + ";^" + rule.substring(0, at) + "q" + rule.substring(at + 1) + " 3" + MAN);
+                }
+            }
+        }
         Doc.says(4, "one that was there,");
         faultAt(HEAD + ";^slots 1 0 0 0" + MAN);
         faultAt(HEAD + ";lid 5;club 5;^lid 5" + MAN);
@@ -614,6 +642,12 @@ final class TextBounds {
         Doc.due("a fault", x.fault(), 30);
         Doc.due("the rivals stay", x.rival(3, 1), 1);
         Doc.due("the teams stay", x.teams(4), 1);
+        x.feed(0, 0, 0, 0, '3');
+        for (int k = 0; k < 9; k++) {
+            Doc.due("asked often, the same", x.fault(), NONE);
+        }
+        Doc.due("then it is the league", x.league(), 1);
+        Doc.due("with its size", x.rule(11), 1);
         Doc.due("an empty tape", new SalaryLid().fault(), 0);
     }
 
@@ -646,6 +680,92 @@ final class TextBounds {
         Doc.due("chips are not played", x.now(7), 0);
         Doc.due("triple again", x.chip(0), 2);
         Doc.due("refused calls are still counted", x.status(0), 1);
+    }
+
+    private static final String LARGE = "slots 3 3 0 0;lid 599;weeks 6;cost 9;rise 1;fall 0"
+        + ";k f99 99 99 99 99 99 99".repeat(3) + ";b f99 99 99 99 99 99 99".repeat(4) + ";k e9 9 9 9 9 9 9".repeat(4);
+
+    private static final String SMALL = "slots 2 0 0 0;lid 20;weeks 3;rise 5;fall 1;k a 5 1 3 5;k b 5 2 2 2;k c 6 9 1 1";
+
+    /** An object that had leagues of more weeks, players and points, with all that can be going on in them. */
+    private static SalaryLid used(boolean onLoan) {
+        SalaryLid x = new SalaryLid();
+        for (int turn = 0; turn < 3; turn++) {
+            Check.feed(x, LARGE);
+            x.league();
+            x.begin(63);
+            x.captain(3);
+            x.plan(0);
+            x.week();
+            x.chip(turn % 2);
+            x.swap(3, 6);
+            x.swap(6, 3);
+            x.week();
+            x.swap(3, 6);
+            if (onLoan) {
+                x.undo();
+                x.loan(63);
+            }
+            x.plan(0);
+            x.rival(turn, 0);
+            x.steady(599, 0);
+            x.stairs(5, 0, 0);
+        }
+        return x;
+    }
+
+    /** What was in the object ahead of a league is not to be seen in any answer behind it. */
+    private static void leagueIsLikeTheFirst() {
+        SalaryLid x = used(true);
+        SalaryLid fresh = new SalaryLid();
+        Check.feed(x, SMALL);
+        Check.feed(fresh, SMALL);
+        Doc.due("the league", x.league(), fresh.league());
+        sameAnswers("not begun", x, fresh);
+        Doc.due("begun", x.begin(3), fresh.begin(3));
+        sameAnswers("begun", x, fresh);
+        SalaryLid y = used(false);
+        SalaryLid other = new SalaryLid();
+        Check.feed(y, SMALL);
+        Check.feed(other, SMALL);
+        Doc.due("the league", y.league(), other.league());
+        Doc.due("begun", y.begin(6), other.begin(6));
+        Doc.due("swaps", y.now(4), other.now(4));
+        Doc.due("a week", y.week(), other.week());
+        sameAnswers("a week was played", y, other);
+    }
+
+    private static void sameAnswers(String when, SalaryLid x, SalaryLid fresh) {
+        for (int k = -1; k <= 6; k++) {
+            Doc.due(when + ", rule " + k, x.rule(k + 5), fresh.rule(k + 5));
+            Doc.due(when + ", now " + k, x.now(k + 4), fresh.now(k + 4));
+            Doc.due(when + ", bought " + k, Check.player(x, k, 3), Check.player(fresh, k, 3));
+            Doc.due(when + ", points " + k, Check.player(x, k, 5), Check.player(fresh, k, 5));
+            Doc.due(when + ", tale " + k, x.tale(0, k), fresh.tale(0, k));
+            Doc.due(when + ", best " + k, x.best(k, 20, 1), fresh.best(k, 20, 1));
+            Doc.due(when + ", least " + k, x.least(k, 1), fresh.least(k, 1));
+            Doc.due(when + ", stairs " + k, x.stairs(k, NONE, 0), fresh.stairs(k, NONE, 0));
+            Doc.due(when + ", outdone " + k, x.outdone(k), fresh.outdone(k));
+            Doc.due(when + ", swap " + k, x.bestSwap(k), fresh.bestSwap(k));
+            Doc.due(when + ", two swaps " + k, x.twoSwaps(k), fresh.twoSwaps(k));
+            Doc.due(when + ", plan " + k, x.plan(k), fresh.plan(k));
+            Doc.due(when + ", plan " + (10 + k), x.plan(10 + k), fresh.plan(10 + k));
+            Doc.due(when + ", plan " + (20 + k), x.plan(20 + k), fresh.plan(20 + k));
+            Doc.due(when + ", price then " + k, x.priceThen(0, k), fresh.priceThen(0, k));
+            Doc.due(when + ", worth then " + k, x.worthThen(k), fresh.worthThen(k));
+            Doc.due(when + ", steady " + k, x.steady(20, k), fresh.steady(20, k));
+            Doc.due(when + ", regret " + k, x.regret(k), fresh.regret(k));
+            Doc.due(when + ", rival " + k, x.rival(k, 0), fresh.rival(k, 0));
+            Doc.due(when + ", its team " + k, x.rival(k, 1), fresh.rival(k, 1));
+            Doc.due(when + ", weight " + k, x.weight(k, 0), fresh.weight(k, 0));
+            Doc.due(when + ", most " + k, x.most(k), fresh.most(k));
+        }
+        Doc.due(when + ", ahead", x.ahead(0, 50), fresh.ahead(0, 50));
+        Doc.due(when + ", teams", x.teams(599), fresh.teams(599));
+        Doc.due(when + ", held", x.held(599, 0, 1), fresh.held(599, 0, 1));
+        Doc.due(when + ", must", x.must(0, 599), fresh.must(0, 599));
+        Doc.due(when + ", acts", x.count(1), fresh.count(1));
+        Doc.due(when + ", bytes", x.count(0), fresh.count(0));
     }
 
     private static void leagueRefused() {
