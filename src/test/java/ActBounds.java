@@ -313,7 +313,6 @@ final class ActBounds {
     private static void chipsOnce() {
         Doc.says(13, "CHIPS, each once: 0 TRIPLE (the captain counts thrice in that WEEK),");
         SalaryLid x = owned("slots 1 0 0 0;weeks 4;k a 5 7 7 7 7;k b 5 8 8 8 8", 1);
-        Doc.says(13, "CHIP 0 or 1 is played for this WEEK: how many are left.");
         Doc.due("triple", x.chip(0), 2);
         Doc.due("thrice", x.week(), 21);
         Doc.due("in that week alone", x.week(), 14);
@@ -326,7 +325,14 @@ final class ActBounds {
         refused("wild again", x, 0, 0, 0, 0, 3);
         Doc.due("loan, the last one", x.loan(2), 1);
         Doc.due("all three", x.now(7), 7);
+        Doc.says(13, "CHIP 0 or 1 is played for this WEEK: how many are left.");
         SalaryLid y = owned("slots 1 0 0 0;weeks 3;k a 5 7 7 7;k b 5 8 8 8", 1);
+        Doc.due("triple, the first one", y.chip(0), 2);
+        Doc.due("played for this week", y.now(8), 0);
+        y.undo();
+        Doc.due("wild, the first one", y.chip(1), 2);
+        Doc.due("played for this week", y.now(8), 1);
+        y.undo();
         y.loan(1);
         y.week();
         Doc.due("wild behind loan", y.chip(1), 1);
@@ -413,7 +419,6 @@ final class ActBounds {
         SalaryLid x = owned("slots 3 0 0 0;weeks 2;k a 1 4 -5;k b 1 5 -4;k c 1 5 -4;k d 1 6 -4;k e 1 3 -9", 1 + 2 + 16);
         int[][] teams = {{7, 1}, {14, 3}, {1 + 2 + 8, 3}, {1 + 4 + 16, 2}, {1 + 2 + 16, 1}};
         for (int[] team : teams) {
-            Doc.says(14, "LOAN: its captain.");
             Doc.due("team " + team[0], x.loan(team[0]), team[1]);
             Doc.due("the captain of the one owned stays", x.now(5), 0);
             x.week();
@@ -422,6 +427,11 @@ final class ActBounds {
             x.undo();
         }
         x.week();
+        Doc.says(14, "LOAN: its captain.");
+        Doc.due("the highest", x.loan(1 + 8 + 16), 3);
+        x.undo();
+        Doc.due("the lowest", x.loan(1 + 2 + 16), 1);
+        x.undo();
         Doc.due("all below 0, of this week", x.loan(7), 1);
         Doc.due("score", x.week(), -13 - 4);
     }

@@ -24,6 +24,7 @@ final class ComingBounds {
         planChips();
         planLoan();
         planChipsToCome();
+        planChipsOnce();
         planLeastRow();
         planChipOfThisWeek();
         planOfForty();
@@ -169,7 +170,6 @@ final class ComingBounds {
         String text = "slots 1 0 0 0;weeks 6;rise 5;fall 1;k a 97 5 5 5 5 4 1;k b 3 1 1 1 1 2 5;k c 50 4 5 2 1 5 1";
         int[][] want = {{98, 99, 99, 99, 99, 98}, {2, 1, 1, 1, 1, 2}, {50, 51, 51, 50, 51, 50}};
         SalaryLid x = Check.told(text);
-        Doc.says(26, "FORETOLD: the PRICE of a PLAYER behind a WEEK.");
         for (int played = 0; played <= 6; played++) {
             for (int i = 0; i < 3; i++) {
                 for (int week = 0; week < 6; week++) {
@@ -181,6 +181,13 @@ final class ComingBounds {
             }
             x.begin(1);
             x.week();
+        }
+        Doc.says(26, "FORETOLD: the PRICE of a PLAYER behind a WEEK.");
+        SalaryLid z = Check.told("slots 1 0 0 0;weeks 2;rise 5;fall 1;k a 5 4 5;k b 5 5 6;k c 5 2 1;k d 5 1 0");
+        int[][] then = {{5, 6}, {6, 7}, {5, 4}, {4, 3}};
+        for (int i = 0; i < 4; i++) {
+            Doc.due("player " + i + " behind week 0", z.priceThen(i, 0), then[i][0]);
+            Doc.due("player " + i + " behind week 1", z.priceThen(i, 1), then[i][1]);
         }
         Doc.says(26, "NONE: no such ones.");
         Doc.bounds("player", i -> x.priceThen(i, 0), 0, 2, NONE);
@@ -446,6 +453,26 @@ final class ComingBounds {
         plan("triple and loan", middle(7, false, true), 0, 45 + 36 + 28, 12, 7, 22, 0, 13, 56, 23, 2, 14, 7, 24, NONE);
     }
 
+    private static void planChipsOnce() {
+        // By turns the points go to the others, but loan can be once alone: two free swaps, the loan back, one swap.
+        SalaryLid x = owned("slots 3 0 0 0;weeks 6;cost 9;rise 99;fall 0" + ";k a1 2 2 9 0 9 0".repeat(3) + ";k b1 2 2 0 9 0 9".repeat(3), 7);
+        x.chip(0);
+        x.week();
+        x.chip(1);
+        x.week();
+        plan("loan once", x, 0, 36 + 27 + 36 + 36, 12, 7, 22, NONE, 13, 25, 23, NONE, 14, 7, 24, 2, 15, 56, 25, NONE);
+        // Triple in the middle, then wild: all three of them are to come.
+        SalaryLid y = owned("slots 3 0 0 0;weeks 3;cost 9;rise 99;fall 0" + ";k a1 2 9 0".repeat(3) + ";k b1 0 0 9".repeat(3), 7);
+        plan("triple, then wild", y, 0, 8 + 45 + 36, 10, 7, 20, NONE, 11, 7, 21, 0, 12, 56, 22, 1);
+        // The others are the lowest team here.
+        SalaryLid z = owned("slots 3 0 0 0;weeks 5;cost 9;rise 99;fall 0" + ";k a1 2 2 0 9 0".repeat(3) + ";k b1 2 2 9 0 7".repeat(3), 56);
+        z.chip(0);
+        z.week();
+        z.loan(56);
+        z.week();
+        plan("wild to the lowest team", z, 0, 36 + 36 + 21, 12, 56, 22, NONE, 13, 7, 23, 1, 14, 25, 24, NONE);
+    }
+
     private static void planLeastRow() {
         Doc.says(25, "The most SCORE together; of several the least row: of each WEEK in turn first its TEAM (that counts) as bits,"
             + " then its CHIP (none ahead of 0, 1, 2).");
@@ -497,6 +524,21 @@ final class ComingBounds {
         plan("42", pairs(6, 7, 50, 100), 1, 42, 0, -2, 10, -2, 20, -2);
         SalaryLid x = owned("slots 3 3 0 0;weeks 1" + ";k a1 1".repeat(8) + ";b b1 1".repeat(8), 7 | 7 << 8);
         plan("3136", x, 1, 3136, 0, -2, 10, -2, 20, -2);
+        planOfFortyAndOwned();
+    }
+
+    /** Forty choices, six weeks, and the team owned is one more: as much as a plan can have. */
+    private static void planOfFortyAndOwned() {
+        String text = "slots 1 1 0 0;weeks 6" + ";k a50 2 2 2 2 2 2".repeat(4) + ";k a50 2 2 2 2 2 7;k a50 9 2 2 2 2 2"
+            + ";b a49 2 2 2 2 2 2".repeat(7) + ";b a49 2 2 2 2 2 7;b a49 9 2 2 2 2 2";
+        SalaryLid x = owned(text, 1 << 5 | 1 << 14);
+        plan("all of them", x, 1, 54, 0, -2);
+        x.week();
+        int low = 1 | 1 << 6;
+        plan("forty, six weeks", x, 1, 40, 0, 4 * 6 + 28, 11, low, 12, low, 13, low, 14, low, 15, 1 << 4 | 1 << 13,
+            21, NONE, 22, NONE, 23, NONE, 24, NONE, 25, 0);
+        x.loan(low);
+        plan("the one owned stays", x, 0, 4 * 6 + 28, 11, low, 21, 2, 12, low, 15, 1 << 4 | 1 << 13, 25, 0);
     }
 
     private static void planOfNone() {

@@ -1,6 +1,8 @@
 import java.io.IOException;
 import java.nio.file.Files;
 import java.nio.file.Path;
+import java.util.Map;
+import java.util.TreeMap;
 import java.util.function.IntToLongFunction;
 
 /**
@@ -14,6 +16,7 @@ final class Doc {
 
     private static final String[] texts = new String[PROMISES + 1];
     private static final boolean[][] taken = new boolean[PROMISES + 1][];
+    private static final Map<String, Integer> answers = new TreeMap<>();
     private static String heading = "";
 
     private Doc() {
@@ -51,6 +54,7 @@ final class Doc {
     /** What follows tests this sentence. */
     static void says(int promise, String sentence) {
         heading = "promise " + promise + ", \"" + sentence + "\": ";
+        answers.putIfAbsent(heading, 0);
         int section = texts[promise].contains(sentence) ? promise : TERMS;
         int at = texts[section].indexOf(sentence);
         Check.due(heading + "the document has these words", at >= 0, true);
@@ -60,11 +64,12 @@ final class Doc {
     }
 
     static void due(String what, long got, long want) {
+        answers.merge(heading, 1, Integer::sum);
         Check.due(heading + what, got, want);
     }
 
     static void due(String what, boolean got, boolean want) {
-        Check.due(heading + what, got, want);
+        due(what, got ? 1 : 0, want ? 1 : 0);
     }
 
     /** The calls with low and high answer, those one further and those furthest out are refused. */
@@ -77,8 +82,11 @@ final class Doc {
         }
     }
 
-    /** Each sentence of the terms and of the promises was taken. */
+    /** Each sentence of the terms and of the promises was taken, and calls were asked about it. */
     static void close() {
+        for (Map.Entry<String, Integer> sentence : answers.entrySet()) {
+            Check.due(sentence.getKey() + "answers were asked", sentence.getValue() > 0, true);
+        }
         for (int section = 0; section <= PROMISES; section++) {
             StringBuilder left = new StringBuilder();
             for (int k = 0; k < texts[section].length(); k++) {

@@ -41,7 +41,7 @@ final class LanguageTest {
                 open.add(method.getName());
             }
             Check.due("rule 1: " + method.getName() + " is private", isOpen || Modifier.isPrivate(method.getModifiers()), true);
-            Check.due("rule 1: a private name, " + method.getName(), isOpen || !FACE.contains(" " + method.getName() + " "), true);
+            Check.due("rule 1: a private name, " + method.getName(), isOpen || !(" " + FACE + " ").contains(" " + method.getName() + " "), true);
         }
         Check.due("rule 1: the face " + open, String.join(" ", open).equals(FACE), true);
         for (Constructor<?> constructor : SalaryLid.class.getDeclaredConstructors()) {

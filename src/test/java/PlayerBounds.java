@@ -156,13 +156,15 @@ final class PlayerBounds {
         int[][] want = {{12, 5, 12, 5}, {12, 6, 2, 1}, {12, 8, 3, 2}, {12, 12, 1, 1}, {12, 24, 1, 2}, {12, 1, 12, 1}, {0, 1, 0, 1}, {0, 99, 0, 1},
             {-12, 8, -3, 2}, {-12, 12, -1, 1}, {-1, 99, -1, 99}, {594, 99, 6, 1}, {-594, 99, -6, 1}, {593, 99, 593, 99}, {594, 98, 297, 49}};
         for (int[] row : want) {
-            Doc.says(36, "WEIGHT: 0 above, 1 below the line.");
             SalaryLid x = Check.told("slots 1 0 0 0;weeks 6;k a " + row[1] + shared(row[0]));
             Doc.due("points", Check.player(x, 0, 5), row[0]);
             Doc.due(row[0] + " by " + row[1] + ", above", x.weight(0, 0), row[2]);
             Doc.due(row[0] + " by " + row[1] + ", below", x.weight(0, 1), row[3]);
         }
+        Doc.says(36, "WEIGHT: 0 above, 1 below the line.");
         SalaryLid y = Check.told("slots 1 0 0 0;weeks 2;rise 5;fall 1;k a 5 5 7");
+        Doc.due("above", y.weight(0, 0), 12);
+        Doc.due("below", y.weight(0, 1), 5);
         y.begin(1);
         y.week();
         Doc.due("points of all weeks", y.weight(0, 0), 2);

@@ -456,23 +456,34 @@ final class SeasonBounds {
     private static void tales() {
         Doc.says(16, "TALE: of each WEEK played SCORE, TEAM that counted, captain, CHIP (NONE), SWAPS, WORTH as it began to be played.");
         SalaryLid x = Check.told("slots 2 0 0 0;lid 30;weeks 4;cost 2;rise 3;fall 0;k a 10 1 1 1 1;k b 11 2 2 2 2;k c 12 3 3 4 4");
+        int[][] want = {{1 + 2 + 1, 3, 0, NONE, 0, 30}, {1 + 2 + 2 - 2, 3, 1, NONE, 3, 30}, {2 + 4 + 4, 6, 2, 2, 0, 30}, {1 + 2 + 2, 3, 0, 0, 0, 30}};
         x.begin(3);
         x.week();
+        tale(x, 0, want[0]);
+        // The captain is sold for 2, then 2 for 1: three swaps with two free.
         x.swap(0, 2);
         x.swap(1, 0);
         x.swap(2, 1);
         x.week();
+        tale(x, 1, want[1]);
         x.loan(6);
         x.week();
+        tale(x, 2, want[2]);
         x.captain(0);
         x.chip(0);
         x.week();
         Doc.says(16, "TALE of a WEEK that was played: 0 SCORE, 1 the TEAM, 2 the captain, 3 the CHIP, 4 SWAPS, 5 WORTH.");
-        tale(x, 0, 1 + 2 + 1, 3, 0, NONE, 0, 30);
-        // The captain was sold for 2, then 2 for 1; swaps: three with two free.
-        tale(x, 1, 1 + 2 + 2 - 2, 3, 1, NONE, 3, 30);
-        tale(x, 2, 2 + 4 + 4, 6, 2, 2, 0, 30);
-        tale(x, 3, 1 + 2 + 2, 3, 0, 0, 0, 30);
+        for (int week = 0; week < 4; week++) {
+            tale(x, week, want[week]);
+        }
+        SalaryLid y = Check.told("slots 1 0 0 0;lid 9;weeks 3;rise 5;fall 1;k a 5 5 1 1");
+        y.begin(1);
+        int[] worth = {9, 9, 9};
+        for (int week = 0; week < 3; week++) {
+            y.week();
+            Doc.due("worth ahead of week " + week, y.tale(week, 5), worth[week]);
+        }
+        Doc.due("worth behind them", y.now(1), 8);
     }
 
     private static void talesHidden() {

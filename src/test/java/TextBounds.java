@@ -683,7 +683,7 @@ final class TextBounds {
     }
 
     private static final String LARGE = "slots 3 3 0 0;lid 599;weeks 6;cost 9;rise 1;fall 0"
-        + ";k f99 99 99 99 99 99 99".repeat(3) + ";b f99 99 99 99 99 99 99".repeat(4) + ";k e9 9 9 9 9 9 9".repeat(4);
+        + ";k f99 99 99 99 99 99 99".repeat(3) + ";b f99 99 99 99 99 99 99".repeat(4) + ";k e9 9 9 9 9 9 9";
 
     private static final String SMALL = "slots 2 0 0 0;lid 20;weeks 3;rise 5;fall 1;k a 5 1 3 5;k b 5 2 2 2;k c 6 9 1 1";
 
