@@ -1160,6 +1160,7 @@ public final class SalaryLid {
     private static final class TeamTable {
         private static final long FACTOR = 6364136223846793005L;
         private static final long ADDEND = 1442695040888963407L;
+        private static final int BEYOND = 1 << PLAYER_MAX;
 
         // Long rows: an object that never has a league goes without them.
         int[] sets = new int[0];
@@ -1219,7 +1220,7 @@ public final class SalaryLid {
         private static int nextOfSameSize(int set) {
             int lowest = set & -set;
             if (lowest == 0) {
-                return Integer.MAX_VALUE;
+                return BEYOND;
             }
             int carried = set + lowest;
             return carried | ((set ^ carried) / lowest) >> 2;

@@ -74,11 +74,13 @@ final class LanguageTest {
 
     private static void words(List<String> lines) {
         Pattern wrong = Pattern.compile("->|::|\\b(catch|try|finally|synchronized|assert|package|getMessage|ordinal|System\\.(?!arraycopy)\\w+|\\w+Exact)\\b");
+        Pattern library = Pattern.compile("\\b(Integer|Long|Math|Arrays|String|System)\\.(?!(bitCount|max|min|abs|fill|arraycopy)\\()");
         Pattern imported = Pattern.compile("import java\\.util\\.(Arrays|NoSuchElementException);");
         for (int k = 0; k < lines.size(); k++) {
             String line = lines.get(k);
             Matcher found = wrong.matcher(line);
             Check.due("line " + (k + 1) + ": " + line, found.find() && !line.trim().startsWith("*"), false);
+            Check.due("rule 4, line " + (k + 1) + ": " + line, library.matcher(line).find(), false);
             Check.due("line " + (k + 1) + ": " + line, line.startsWith("import") && !imported.matcher(line).matches(), false);
             Check.due("line " + (k + 1) + " has signs 32 to 126", line.matches("[ -~]*"), true);
         }
