@@ -57,14 +57,26 @@ final class RunsTest {
     // ---- a league ----
 
     private void tellLeague() {
+        Model.Rules r = anyRules();
+        while (r.text().length() > 400) {
+            r = anyRules();
+        }
+        Check.feed(x, r.text());
+        m.tell(r);
+        due("league()", x.league(), r.n());
+    }
+
+    private Model.Rules anyRules() {
         Model.Rules r = new Model.Rules();
+        // The model takes its time with as many teams as these have.
+        boolean large = chance(3);
         do {
             for (int p = 0; p < 4; p++) {
                 r.slots[p] = chance(50) ? from(0, chance(70) ? 2 : 3) : 0;
             }
-        } while (r.size() < 1 || r.size() > (chance(70) ? 3 : 6));
-        int n = from(r.size(), chance(75) ? 8 : 12);
-        r.weeks = from(1, n > 9 ? 3 : 6);
+        } while (r.size() < 1 || r.size() > (chance(70) && !large ? 3 : 6));
+        int n = large ? from(13, 16) : from(r.size(), chance(75) ? 8 : 12);
+        r.weeks = from(1, n > 9 && !large ? 3 : 6);
         r.club = from(1, chance(50) ? 6 : 3);
         r.cost = from(0, chance(50) ? 3 : 9);
         r.rise = from(1, 9);
@@ -84,9 +96,7 @@ final class RunsTest {
             }
         }
         r.lid = Math.min(599, Math.max(1, (rich ? 95 : 5) * r.size() + from(-4, 9)));
-        Check.feed(x, r.text());
-        m.tell(r);
-        due("league()", x.league(), n);
+        return r;
     }
 
     /** The first ones fill the slots, so that there are teams more often than not. */
